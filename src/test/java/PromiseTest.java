@@ -478,6 +478,15 @@ public final class PromiseTest {
         due("9: none of one that overlaps by a minute", x.of(4, 3), 1);
         due("9: times that touch", x.of(3, 2), 3);
         due("9: with tugs is not without", x.of(3, 3), 0);
+        PilotTugs z = new PilotTugs();
+        z.person(1, 0, 1000, 0);
+        z.person(1, 0, 1000, 0);
+        z.tug(50);
+        z.job(1, 50, 100, 200, 0);
+        z.job(1, 50, 100, 200, 0);
+        z.assign();
+        due("9: of equal beginnings the less number", z.of(0, 2), 1);
+        due("9: then there is none left", z.of(1, 3), 1);
         PilotTugs y = new PilotTugs();
         y.person(1, 0, 1000, 0);
         y.tug(50);
