@@ -7,8 +7,11 @@ import java.util.Random;
  * looks at every way to give the jobs, and every set of tugs, one after the other.
  */
 public final class OracleTest {
-    private static final int RUNS = 1500;
-    private static final int CALLS = 90;
+    private static final int RUNS = 3000;
+    /** The document leaves what an object answers behind this many calls free. */
+    private static final int MOST_CALLS = 512;
+    private static final int CALLS_OF_ALL = 9 * 7 + 6 * 10 + 18;
+    private static final int CALLS_OF_STEP = 8 + CALLS_OF_ALL;
     private static final int[] WILD = {
         Integer.MIN_VALUE, -1, 0, 1, 4, 5, 6, 7, 9, 10, 13, 14, 300, 301, 600, 2880, 2881, Integer.MAX_VALUE
     };
@@ -416,6 +419,7 @@ public final class OracleTest {
     private final PilotTugs fast = new PilotTugs();
     private final Slow slow = new Slow();
     private final String name;
+    private int calls = 0;
     /** The day is short in some runs, so that equal times, ties and refusals are common. */
     private final int span;
 
@@ -439,6 +443,7 @@ public final class OracleTest {
     }
 
     private void same(String call, java.util.function.IntSupplier a, java.util.function.IntSupplier b) {
+        calls++;
         check.dueText(name + call, Check.outcome(a), Check.outcome(b));
     }
 
@@ -528,7 +533,7 @@ public final class OracleTest {
     }
 
     private boolean run() {
-        for (int i = 0; i < CALLS && !check.hasWrong(); i++) {
+        while (calls + CALLS_OF_STEP + CALLS_OF_ALL <= MOST_CALLS && !check.hasWrong()) {
             switch (below(8)) {
                 case 0:
                     tellPerson();
@@ -548,12 +553,13 @@ public final class OracleTest {
                     break;
                 default:
                     makePlan();
-                    if (below(4) == 0) {
+                    if (below(12) == 0) {
                         askAll();
                     }
             }
         }
         askAll();
+        check.due(name + "calls within the document's limit", calls <= MOST_CALLS, true);
         return !check.hasWrong();
     }
 
